@@ -7,8 +7,8 @@ import java.util.List;
 import java.util.Map;
 
 /**
- * DOC.md, cut into "Terms 0" (ahead of the first group), "Terms 1" to "Terms 5" and "Promise 1" to
- * "Promise 38": so that a test's words are those of the document, and no sentence goes without a test.
+ * DOC.md, cut into "What it is" (what it says of calls), "Terms 0" (ahead of the first group),
+ * "Terms 1" to "Terms 5" and "Promise 1" to "Promise 38": so that a test's words are those of the document, and no sentence goes without a test.
  * .ci/run tells where it is (-Ddoc=..); without it every quotation is taken for a true one.
  */
 final class Document {
@@ -36,6 +36,8 @@ final class Document {
             } else if (section.startsWith("Terms") && line.startsWith("==== ")) {
                 section = "Terms " + line.charAt(5);
                 add(section, line.substring(6));
+            } else if (section.equals("What it is") && line.startsWith("An object ")) {
+                add(section, line);
             } else if (section.startsWith("Promise")) {
                 add(section, line.replaceFirst("^`[^`]*`:", ""));
             } else if (section.startsWith("Terms") && !line.startsWith("Ahead of the calls") && !line.startsWith("```")) {
@@ -48,7 +50,7 @@ final class Document {
         if (heading.equals("Terms")) {
             return "Terms 0";
         }
-        return heading.startsWith("Promise ") ? heading.substring(0, heading.indexOf(':')) : "";
+        return heading.startsWith("Promise ") ? heading.substring(0, heading.indexOf(':')) : heading;
     }
 
     private void add(String section, String line) {

@@ -40,6 +40,10 @@ abstract class Edges {
         sentence("Terms " + group, words);
     }
 
+    void whatItIs(String words) {
+        sentence("What it is", words);
+    }
+
     private void sentence(String section, String words) {
         sentence = section + ", \"" + words + "\": ";
         checks.due(sentence + "stands in the document", document.quotes(section, words) ? 1 : 0, 1);

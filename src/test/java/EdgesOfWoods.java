@@ -9,6 +9,7 @@ final class EdgesOfWoods extends Edges {
 
     @Override
     void run() {
+        callsOfAnObject();
         refusalsInOrder();
         refusedChangesNothing();
         noneIs();
@@ -43,6 +44,23 @@ final class EdgesOfWoods extends Edges {
         CharcoalFromAHearth x = new CharcoalFromAHearth();
         Checks.tell(x, text);
         return x;
+    }
+
+    // ---- what it is
+
+    private void callsOfAnObject() {
+        whatItIs("An object is used for at most 512 calls after it has been made; what later calls answer is free.");
+        CharcoalFromAHearth x = new CharcoalFromAHearth();
+        due("call 1", x.layer(), 0);
+        for (int call = 2; call <= 511; call++) {
+            due("call " + call, x.count(0, 5, call % 100), call == 2 ? 0 : (call - 1) % 100);
+        }
+        due("call 512", x.counted(0, 5), 11);
+        x = new CharcoalFromAHearth();
+        for (int call = 1; call <= 512; call += 2) {
+            due("call " + call, x.write(1 + call % 8, 0), 1 + call % 8);
+            due("call " + (call + 1), x.wipe(), 1 + call % 8);
+        }
     }
 
     // ---- refusals and fractions
